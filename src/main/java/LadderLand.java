@@ -944,7 +944,7 @@ public final class LadderLand {
             for (int i = 0; i < sumEnd.length; i++) {
                 boolean hasTest = testEnd[i] > sumEnd[i];
                 if (!hasTest || result(sumEnd[i], testEnd[i], words) != 0) {
-                    return Long.signum(result(start, sumEnd[i], words));
+                    return Long.compare(result(start, sumEnd[i], words), 0);
                 }
                 start = testEnd[i];
             }
