@@ -211,6 +211,8 @@ public final class PromiseTests {
         is(4, "forty-one clauses", ladderOf("ladder 9" + times(";broken1", 40)), fault(8 + 39 * 8 + 1, 4));
         is(4, "forty-one, no word", ladderOf("ladder 9" + times(";broken1", 39) + ";x"), fault(8 + 39 * 8 + 1, 0));
         is(4, "no such rung", ladderOf("ladder 3;rung 3 1 1"), fault(14, 1));
+        is(4, "no such rung to be broken", ladderOf("ladder 3;broken 3"), fault(16, 1));
+        is(4, "no such rung to be on", ladderOf("ladder 3;person 3 1 1 0"), fault(16, 1));
         is(4, "room 0", ladderOf("ladder 3;rung 0 0 1"), fault(16, 1));
         is(4, "room 5", ladderOf("ladder 3;rung 0 5 1"), fault(16, 1));
         is(4, "strength 0", ladderOf("ladder 3;rung 0 1 0"), fault(18, 1));
@@ -255,6 +257,7 @@ public final class PromiseTests {
     private static void ruleFaults() {
         is(5, "empty", ruleOf(""), fault(0, 0));
         is(5, "no climb", ruleOf("climbs 1"), fault(0, 0));
+        is(5, "a word goes on to z", ruleOf("climbz 1"), fault(0, 0));
         is(5, "a minus ahead", ruleOf("climb -1"), fault(6, 0));
         is(5, "a wrong word", ruleOf("climb rungs"), fault(6, 0));
         is(5, "if for a value", ruleOf("climb if"), fault(6, 0));
@@ -335,6 +338,8 @@ public final class PromiseTests {
         is(5, "<", wish("climb 1 if 1<1"), 1);
         is(5, "<=", wish("climb 1 if 1<=1"), 2);
         is(5, ">", wish("climb 1 if 2>1"), 2);
+        is(5, "> of the same", wish("climb 1 if 1>1"), 1);
+        is(5, ">= of the same", wish("climb 1 if 1>=1"), 2);
         is(5, ">=", wish("climb 1 if 0>=1"), 1);
         is(5, "round in 64 bits", wish("climb 65536*65536*65536*32768"), 0);
         is(5, "and on", wish("climb 65536*65536*65536*65536"), 1);
@@ -382,6 +387,13 @@ public final class PromiseTests {
         is(7, "over one broken rung", x.person(1, 5), 3);
         is(7, "below", x.person(1, 6), 0);
         is(7, "what 7", x.person(0, 7), -2);
+        LadderLand y = with("ladder 4;broken 1;broken 3;person 2 1 1 0");
+        is(7, "down to rung 0 over a broken one", y.person(0, 6), 0);
+        is(7, "no rung beyond the broken one", y.person(0, 5), NONE);
+        y.cut(0);
+        is(7, "nor below", y.person(0, 6), NONE);
+        y.cut(2);
+        is(7, "falls over broken rungs", y.person(0, 0), NONE);
         is(7, "what -1", x.person(0, -1), -2);
         is(7, "person 3", x.person(3, 0), -2);
         is(7, "person -1", x.person(-1, 0), -2);
@@ -419,6 +431,12 @@ public final class PromiseTests {
         is(9, "hour 1", x.count(6), 1);
         x.hour();
         is(9, "rest", x.person(1, 2), 8);
+        LadderLand u = with("ladder 3;person 0 1 9 2");
+        u.hour();
+        u.hour();
+        is(9, "two less by two steps", u.person(0, 2), 7);
+        u.hour();
+        is(9, "one more by one hour", u.person(0, 2), 8);
         LadderLand y = with("ladder 3;rung 1 1 200;person 0 1 9 2;person 0 1 9 2");
         y.hour();
         is(9, "no room for the second", y.person(0, 0) * 10 + y.person(1, 0), 10);
@@ -558,6 +576,10 @@ public final class PromiseTests {
         is(14, "who has fallen", y.aim(0, 0), NONE);
         is(10, "who has fallen", y.step(0, true), NONE);
         is(11, "who have fallen", y.pass(0, 1), false);
+        LadderLand z = with("ladder 3;rung 1 1 9;person 0 1 9 1;person 1 1 9 1;person 0 1 9 1");
+        z.cut(0);
+        is(11, "one of whom has fallen", z.pass(0, 1), false);
+        is(11, "the other first", z.pass(1, 0), false);
         is(13, "count(2)", y.count(2), 0);
     }
 
@@ -707,6 +729,8 @@ public final class PromiseTests {
         is(21, "never", y.mending(1), NONE);
         LadderLand z = with("ladder 3;rung 0 1 999;rung 1 1 40;person 1 10 5 1;person 0 1 5 0");
         z.hour();
+        LadderLand w = with("ladder 4;rung 0 1 40;broken 2;broken 3;person 0 4 5 0");
+        is(21, "of several the least", w.mending(0) * 100 + w.mending(1), 209);
         is(21, "of several the later one", z.mending(0) * 100 + z.mending(1), 104);
     }
 
@@ -775,6 +799,13 @@ public final class PromiseTests {
         LadderLand z = with("ladder 3;person 0 1 9 0;person 2 1 9 1");
         z.force(NONE);
         is(25, "by the want", z.goods(0, 1), 0);
+        is(25, "nobody where they lie", with("ladder 3;person 1 1 9 1").goods(0, 1), -2);
+        LadderLand w = with("ladder 3;rung 0 2 999;rung 2 2 999;person 0 1 9 0;person 2 1 9 2",
+            "climb 0-person if hour=199", "climb 0-person if hour=200");
+        w.force(0);
+        is(25, "in the last of 200", w.goods(0, 1), 199);
+        w.force(1);
+        is(25, "behind these", w.goods(0, 1), -2);
     }
 
     private static void standing() {
@@ -818,6 +849,7 @@ public final class PromiseTests {
         is(28, "what 2", x.ruled(2), -3);
         is(28, "what -1", x.ruled(-1), -3);
         is(29, "what 2", x.look(1, 2), NONE);
+        is(29, "hour 60", x.look(60, 0), -2);
         is(29, "hour 61", x.look(61, 0), NONE);
         is(29, "hour -1", x.look(-1, 0), NONE);
         is(27, "hour 61", x.note(61, 0, 0), -2);
@@ -864,6 +896,11 @@ public final class PromiseTests {
         is(31, "one slip a year", y.years(3, 1, 100, 0), 3);
         is(31, "one falls a year", y.years(3, 1, 100, 1), 3);
         is(31, "no wind, no slip", y.years(3, 1, 0, 0), 0);
+        LadderLand v = with("ladder 3;person 0 1 2 1;person 1 1 9 1");
+        is(31, "a slip that is no fall", v.years(2, 1, 100, 0) * 10 + v.years(2, 1, 100, 1), 20);
+        LadderLand u = with("ladder 3;rung 0 1 2;person 0 1 9 0");
+        is(31, "not in the second hour", u.years(4, 1, 0, 1), 0);
+        is(31, "in the second hour", u.years(4, 2, 0, 1), 4);
         is(31, "nothing stays", y.count(6) * 100 + y.count(7) * 10 + y.person(0, 2), 2);
         is(31, "x as it was", y.count(11), 0);
         // the draws from 0: x is 12345 (0), then 1406932606 (21468), 654583775 (9988), 1449466924 (22117): 0, 68, 88, 17
