@@ -1,19 +1,6 @@
 /** Each promise by answers that were worked out by hand from the document: the ordinary, the edges, the wrong. */
-public final class PromiseTests {
-    private static final int NONE = LadderLand.NONE;
-    private static int wrong = 0;
-    private static int asked = 0;
-
-    private static void is(int promise, String what, long got, long due) {
-        asked++;
-        if (got != due) {
-            wrong++;
-            System.out.println("promise " + promise + ", " + what + ": answered " + got + ", due is " + due);
-        }
-    }
-
-    private static void is(int promise, String what, boolean got, boolean due) {
-        is(promise, what, got ? 1 : 0, due ? 1 : 0);
+public final class PromiseTests extends Check {
+    private PromiseTests() {
     }
 
     public static void main(String[] args) {
@@ -46,44 +33,7 @@ public final class PromiseTests {
         draws();
         counts();
         images();
-        System.out.println("PromiseTests: " + (asked - wrong) + " answers as due, " + wrong + " not");
-        if (wrong != 0) {
-            System.exit(1);
-        }
-    }
-
-    private static LadderLand with(String ladder, String... rules) {
-        LadderLand x = new LadderLand();
-        Bytes.put(x, ladder);
-        int people = x.ladder();
-        if (people < 0) {
-            is(4, "a good text: " + ladder, people, 0);
-        }
-        for (int i = 0; i < rules.length; i++) {
-            Bytes.put(x, rules[i]);
-            is(5, "a good rule: " + rules[i], x.rule(), i);
-        }
-        return x;
-    }
-
-    private static int ladderOf(String text) {
-        LadderLand x = new LadderLand();
-        Bytes.put(x, text);
-        return x.ladder();
-    }
-
-    private static int ruleOf(String text) {
-        LadderLand x = new LadderLand();
-        Bytes.put(x, text);
-        return x.rule();
-    }
-
-    private static int fault(int place, int kind) {
-        return -2 - (1 + 8 * place + kind);
-    }
-
-    private static String times(String piece, int n) {
-        return piece.repeat(n);
+        end("PromiseTests");
     }
 
     // ---- promise 1
