@@ -57,6 +57,11 @@ final class KeptBounds extends Bounds {
             is("grip 1 stays 1", with("ladder 3;person 1 1 1 1").years(10, 60, 100, 0), 0);
             is("grip 1 stays 1, and a step is one too much by itself", with("ladder 3;person 1 1 1 0").years(10, 1, 100, 0), 10);
             is("grip 3 is 2, and 1 by the step", with("ladder 3;person 1 1 3 0").years(10, 1, 100, 0), 0);
+            LadderLand w = ruledBy("ladder 5;person 0 1 3 0", "climb 1 if hour<2 or hour=3");
+            live(w, 2);
+            // draws from 0: 0, 68; grip 1 stays 1, is 2 by the hour, and 1 by the step
+            is("not below 1, so that rest makes 2", w.person(0, 2) * 10 + w.years(1, 2, 50, 0), 10);
+            is("taken again, it slips", w.years(1, 2, 69, 0), 1);
             // draws from 0: 0, 68, 88, 17
             LadderLand x = with("ladder 3;rung 0 4 99;rung 1 4 99;person 1 1 2 0;person 1 1 2 0;person 1 1 2 0;person 1 1 2 0");
             int[][] due = {{0, 0}, {1, 1}, {17, 1}, {18, 2}, {68, 2}, {69, 3}, {88, 3}, {89, 4}, {100, 4}};
@@ -244,6 +249,38 @@ final class KeptBounds extends Bounds {
             is("the tape stays", x.count(12), 20);
             is("the rules stay", x.count(4), 3);
             is("room and strength", x.rung(2, 0) * 1000 + x.rung(2, 1), 1040);
+        });
+        said(34, "as it is (the RULE IN FORCE, too); gone back to, it is as it was", () -> {
+            LadderLand x = with("ladder 4;person 1 1 9 1;person 2 1 9 2", "climb 1", "climb 0-1");
+            x.note(1, 1, 1);
+            x.note(2, 2, 1);
+            x.image(0);
+            is("by none", x.ruled(0) * 10 + x.ruled(1), 9);
+            x.note(NONE, 0, 0);
+            x.note(1, 2, 1);
+            x.note(1, 3, 1);
+            x.image(1);
+            is("by rule 0", x.ruled(0) * 10 + x.ruled(1), 10);
+            for (int i = 0; i < 3; i++) {
+                x.back(0);
+                is("the notes that there were", x.ruled(0) * 10 + x.ruled(1), 9);
+                is("two", x.count(9), 2);
+                x.back(1);
+                is("and those", x.ruled(0) * 10 + x.ruled(1), 10);
+                x.note(3, 0, 2);
+                is("a third", x.count(9), 3);
+            }
+            int[][] others = {{0, 3, 1}, {2, 1, 1}, {2, 3, 0}};
+            for (int[] other : others) {
+                LadderLand y = with("ladder 4;person 1 1 9 3");
+                y.note(2, 3, 1);
+                y.image(2);
+                y.note(NONE, 0, 0);
+                y.note(other[0], other[1], other[2]);
+                is("not so", y.ruled(0), 0);
+                y.back(2);
+                is("so again: hour, rung and how many", y.ruled(0), 1);
+            }
         });
         said(34, "gone back to, it is as it was (these stay; nothing can be UNDONE then)", () -> {
             LadderLand x = Scenes.full();

@@ -221,6 +221,22 @@ final class LadderBounds extends Bounds {
             is("room without, again", x.rung(2, 0) * 1000 + x.rung(2, 1), 2200);
             is("grip as told", x.person(0, 2), 1);
         });
+        said(4, "in place of the one there was", () -> {
+            String text = "ladder 3;rung 0 4 60;rung 1 1 5;broken 2" + times(";person 0 20 9 2", 4);
+            LadderLand x = with(text);
+            x.hour();
+            x.mend(2);
+            x.cut(1);
+            is("all have fallen, one of them from rung 1", x.count(2) * 100 + x.count(7), 5);
+            for (int i = 0; i < 3; i++) {
+                Bytes.put(x, text);
+                is("the same once more", x.ladder(), 4);
+                is("nobody fell", x.count(2) * 100 + x.count(7), 1500);
+                is("worn, broken", x.count(8) * 10 + x.count(3), 4);
+                is("hour", x.count(6), 0);
+                live(x, 1 + i);
+            }
+        });
         said(4, "HOUR 0, no NOTES, nothing to be UNDONE; the RULE IN FORCE, x, IMAGES stay", () -> {
             LadderLand x = Scenes.full();
             is("much was there", x.count(6) * 10000 + x.count(9) * 100 + x.count(10), 241020);

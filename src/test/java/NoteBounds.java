@@ -81,7 +81,21 @@ final class NoteBounds extends Bounds {
             x.mend(3);
             x.step(0, true);
             x.force(4);
+            is("in hours that are asked, too", x.ahead(1, 100, 2) > 0, true);
             same("whatever has come since", x.ruled(0) + " " + x.ruled(1), seen);
+        });
+        said(28, "from the begin on, all as the text told it", () -> {
+            LadderLand x = with("ladder 5;rung 3 2 4;person 3 1 9 3", "climb 0-slips", "climb 0-hour", "climb grip-told", "climb 0-worn/3");
+            x.note(2, 3, 1);
+            for (int i = 0; i < 5; i++) {
+                is("all but rule 1, which comes down in hour 1", x.ruled(0), 4);
+                x.note(4, 2, 1);
+                is("rule 3 comes down in hour 3; by the others they slip", x.ruled(0) * 10 + x.ruled(1), 39);
+                x.note(NONE, 0, 0);
+                x.note(2, 3, 1);
+                x.hour();
+                x.ahead(0, 20, 2);
+            }
         });
         said(28, "RULED what 0: how many, 1: the first (NONE: none; -2: there is none such)", () -> {
             // rule 0 stays, 1 climbs, 2 comes down, and so on
@@ -136,6 +150,10 @@ final class NoteBounds extends Bounds {
             is("hour 60: rule 0 has come down", x.look(60, 0) * 10 + x.look(60, 1), 2);
             x.note(59, 1, 1);
             is("no less with a note", x.look(60, 1), 2);
+            LadderLand y = with("ladder 3;person 1 1 9 1", "climb 1 if hour=0;climb 0-1 if hour=1");
+            y.note(60, 1, 1);
+            is("ahead of the last note: 1, where these part", y.look(1, 0) * 10 + y.look(1, 1), 11);
+            is("and 2, where they don't", y.look(2, 0) * 10 + y.look(2, 1), 2);
         });
         said(29, "-2: no RULE is so", () -> {
             LadderLand x = Scenes.lived();
@@ -168,6 +186,16 @@ final class NoteBounds extends Bounds {
             is("three and one", w.look(1, 0) * 10 + w.look(1, 1), 2);
             w.note(1, 0, 2);
             is("of the one that is so", w.look(1, 0) * 10 + w.look(1, 1), 1);
+            LadderLand u = with("ladder 3;person 1 1 9 1", "climb 0", "climb 0", "climb 0-1", "climb 0-1", "climb 0-1", "climb 0-1");
+            is("all seven alike", u.look(0, 0) * 10 + u.look(0, 1), 7);
+            is("three and four, the last among these", u.look(1, 0) * 10 + u.look(1, 1), 4);
+            LadderLand s = with("ladder 3;rung 1 4 999" + times(";person 1 1 9 1", 4), "climb 0", "climb 0");
+            is("four stand on one", s.look(60, 0) * 10 + s.look(60, 1), 3);
+            LadderLand q = with("ladder 9;person 3 1 9 3", "climb 0-1");
+            is("rung 2 parts them, and rung 3", q.look(1, 0) * 10 + q.look(1, 1), 21);
+            Bytes.put(q, "ladder 3;person 0 1 9 0");
+            q.ladder();
+            is("no rung of a ladder that was", q.look(1, 0) * 10 + q.look(1, 1), 2);
         });
     }
 }

@@ -134,6 +134,24 @@ final class RuleBounds extends Bounds {
             taken("climb 1 if " + times("1=1 or ", 18) + "1=1+1+1");
             taken("climb 1 if " + times("[not 1=1]and ", 18) + "[not 1=1+1+1]");
         });
+        said(5, "60 VALUES (of SUMS) and FACTS made of a SIGN, together", () -> {
+            LadderLand x = with("ladder 3;person 1 1 9 1");
+            String sixty = "climb 1" + times("+1", 59);
+            for (int i = 0; i < 25; i++) {
+                Bytes.put(x, sixty + (i % 2 == 0 ? "+1" : "+"));
+                is("one too many, or none", x.rule(), i % 2 == 0 ? fault(126, 3) : fault(126, 0));
+            }
+            for (int i = 0; i < 5; i++) {
+                Bytes.put(x, "climb 0-59" + times("+1", 58));
+                is("each text by itself", x.rule(), i);
+                x.force(i);
+                is("what is read is what counts", x.ahead(0, 1, 0), 0);
+            }
+            Bytes.put(x, times("climb 1 if 1=2;", 11) + "climb 7-4-3");
+            is("each text's clauses, too", x.rule(), 5);
+            x.force(5);
+            is("the last of them", x.ahead(0, 1, 0), 1);
+        });
         said(5, "3 one VALUE or FACT too many (at its first byte; of a FACT at its SIGN)", () -> {
             refused("climb 1" + times("+1", 60), 126, 3);
             refused("climb 1" + times("+1", 59) + "+ rung", 127, 3);
@@ -357,6 +375,15 @@ final class RuleBounds extends Bounds {
                     "climb 1 if person=0 and above=0-1;climb 0-1 if person=1 and above=0-1 and below=1;climb 1 if person=2 and below=0-1");
                 is("no rung beyond two broken ones: nothing, down, and a way", y.hour() * 1000 + stands(y, 3), 34);
             });
+        said(5, "of a PERSON: person, rung, want, weight, grip", () -> {
+            String two = "ladder 9;person 0 20 30 8;person 8 1 1 0";
+            String climbs = "climb 1 if person=0 and rung=0 and want=8 and weight=20 and grip=30 and told=30 or person=1 and rung=8";
+            is("the first, of all the most", ruledBy(two, climbs).ahead(0, 1, 0), 1);
+            String falls = "climb 0-1 if person=1 and rung=8 and want=0 and weight=1 and grip=1 and told=1 and here=0 and above=0-1";
+            is("the last, of all the least", ruledBy(two, falls).ahead(1, 1, 2), 1);
+            is("four of them", ruledBy("ladder 3;rung 1 4 99" + times(";person 1 1 9 1", 4), "climb person-2").hour() * 10000
+                + stands(ruledBy("ladder 3;rung 1 4 99" + times(";person 1 1 9 1", 4), "climb person-2"), 4), 1111);
+        });
         said(5, "told (their GRIP as the text told it)", () -> {
             LadderLand x = ruledBy("ladder 9;person 0 1 9 8", "climb 1 if told=9 and grip=9-hour");
             live(x, 3);

@@ -167,6 +167,19 @@ final class TapeBounds extends Bounds {
             x.end(9);
             is("what was cut off is gone", x.end(10), NONE);
             is("and nine stay", x.count(12), 9);
+            for (int n = 13; n <= 15; n++) {
+                LadderLand y = new LadderLand();
+                feed(y, "climb 1 if 1<=1=1   ");
+                y.end(n);
+                is("no byte of it is read, " + n, y.rule(), n < 15 ? fault(n, 0) : 0);
+            }
+            LadderLand z = new LadderLand();
+            feed(z, "climb 123456+rung   ");
+            z.end(11);
+            is("no digit", z.rule(), 0);
+            feed(z, "climb rung          ");
+            z.end(9);
+            is("no letter", z.rule(), fault(6, 0));
         });
     }
 }

@@ -70,6 +70,25 @@ final class WayBounds extends Bounds {
             w.hour();
             is("who has fallen from where they want to be", w.moves(1), -2);
             is("nobody of them", w.moves(0), 0);
+            LadderLand u = with("ladder 3;person 0 1 1 1;person 1 1 1 1");
+            is("not fallen yet", u.moves(1) * 10 + u.squeeze(1), 10);
+            u.cut(0);
+            is("fallen now", u.moves(1) * 10 + u.squeeze(1), -22);
+            is("and no row", u.move(1, 0, 0), -2);
+            is("the other one", u.moves(2) * 10 + u.squeeze(2), 0);
+            is("and then not the fallen", u.moves(3) * 10 + u.squeeze(3), -22);
+            LadderLand s = with("ladder 3;rung 0 1 9;person 1 1 1 0;person 0 1 1 0");
+            s.cut(0);
+            s.mend(0);
+            is("the fallen take no room", s.moves(1) * 10 + s.squeeze(1), 10);
+            is("and none passes them", told(s, 1, 0), 19);
+            LadderLand r = with("ladder 3;rung 0 1 9;person 1 1 1 0;person 0 1 1 0;person 2 1 1 0");
+            r.cut(0);
+            r.mend(0);
+            r.step(2, false);
+            r.step(2, false);
+            is("but who stands there now", told(r, 1, 0), 22);
+            is("who can make way as well", r.squeeze(1), 0);
         });
         said(18, "the fewest STEPS and PASSES, as by ACTS (nothing wears, nobody tires), by which all of these are on the RUNGS they WANT, together, at the end",
             () -> {
@@ -193,6 +212,8 @@ final class WayBounds extends Bounds {
             is("one, on the highest of nine", with("ladder 9;person 8 1 1 0").ballot(), 256 + 128);
             is("over a broken one", with("ladder 5;broken 3;person 2 1 1 0").ballot(), 2 + 4 + 16);
             is("two together stay", with("ladder 5;person 2 1 1 0;person 2 1 1 0").ballot(), 4 + 2);
+            // one each, so 0; 0 up: 1; 2 down: two on 5; 3 up: two on 6; all else 0 again
+            is("by the last person alone", with("ladder 9;person 0 1 1 0;person 3 1 1 0;person 6 1 1 0;person 5 1 1 0").ballot(), 99);
             is("a full one is none", with("ladder 3;rung 1 1 9;person 0 1 1 0;person 1 1 1 0").ballot(), 1);
             is("one step, not a pass", with("ladder 3;rung 0 1 9;rung 1 1 9;rung 2 1 9;person 0 1 1 0;person 1 1 1 0;person 2 1 1 0").ballot(), 1);
         });
