@@ -812,12 +812,17 @@ public final class LadderLand {
                 return tape.refuse(FAULT_DEPTH);
             }
             tape.advance();
-            if (isNot) {
-                boolean fine = readFact(depth + 1);
-                emit(Rule.SIGN, Rule.NOT);
-                return fine;
-            }
-            if (!readTest(depth + 1)) {
+            return isNot ? readNegated(depth + 1) : readBracketed(depth + 1);
+        }
+
+        private boolean readNegated(int depth) {
+            boolean fine = readFact(depth);
+            emit(Rule.SIGN, Rule.NOT);
+            return fine;
+        }
+
+        private boolean readBracketed(int depth) {
+            if (!readTest(depth)) {
                 return false;
             }
             if (!tape.isAt(']')) {
@@ -1385,7 +1390,8 @@ public final class LadderLand {
 
     /** Hours that are asked about: they go by in a world of their own. */
     private static final class Outlook {
-        private static final int NEVER = Integer.MAX_VALUE;
+        /** Later than every hour. */
+        private static final int NEVER = 1000000;
         private static final int CANDIDATES = MOST_RULES + 1;
 
         int brokenRung;
@@ -1800,7 +1806,7 @@ public final class LadderLand {
             if (turns <= 0) {
                 return invader;
             }
-            int lowest = defend(climbed(invader), turns - 1);
+            int lowest = letClimb(invader, turns);
             int best = NONE;
             for (int step = 0; step < 2 * trial.ladder.people && lowest > invader; step++) {
                 int person = step / 2;
@@ -1810,7 +1816,7 @@ public final class LadderLand {
                     continue;
                 }
                 trial.rung[person] = goal;
-                int height = defend(climbed(invader), turns - 1);
+                int height = letClimb(invader, turns);
                 trial.rung[person] = home;
                 if (height < lowest) {
                     lowest = height;
@@ -1821,9 +1827,10 @@ public final class LadderLand {
             return lowest;
         }
 
-        private int climbed(int invader) {
+        private int letClimb(int invader, int turns) {
             int next = invader + 1;
-            return next < trial.ladder.rungs && trial.hasRoom(next) ? next : invader;
+            boolean climbs = next < trial.ladder.rungs && trial.hasRoom(next);
+            return defend(climbs ? next : invader, turns - 1);
         }
     }
 }
