@@ -23,6 +23,9 @@ public final class FaceTests {
         "int image(int)", "int back(int)"};
     private static final int MOST_CLASSES = 12;
     private static final int MOST_LINES = 60;
+    /** What the class may use of LANGUAGE.md 4, as far as it does. */
+    private static final Set<String> LIBRARY = Set.of("Arrays.copyOf", "Arrays.fill", "System.arraycopy",
+        "Integer.bitCount", "Integer.compare", "Long.compare", "Math.max", "Math.min");
     private static int wrong = 0;
 
     private static void mind(boolean fine, String what) {
@@ -90,6 +93,10 @@ public final class FaceTests {
             mind(imports.group(1).equals("java.util.Arrays"), "import " + imports.group(1));
         }
         mind(!Pattern.compile("static (?!final|int |long |boolean |void )").matcher(code).find(), "static state");
+        Matcher used = Pattern.compile("\\b(Integer|Long|Math|Arrays|System|String|StringBuilder)\\s*\\.\\s*(\\w+)").matcher(code);
+        while (used.find()) {
+            mind(LIBRARY.contains(used.group(1) + "." + used.group(2)), "LANGUAGE.md 4: " + used.group());
+        }
         lengths(text);
     }
 
@@ -104,8 +111,21 @@ public final class FaceTests {
                 indent = opens.group(1);
             } else if (start >= 0 && lines[i].equals(indent + "}")) {
                 mind(i - start < MOST_LINES, "a method of " + (i - start + 1) + " lines: " + lines[start]);
+                selfCalls(Arrays.copyOfRange(lines, start, i));
                 start = -1;
             }
+        }
+    }
+
+    /** LANGUAGE.md 8: what calls itself is static; others may call one another. */
+    private static void selfCalls(String[] method) {
+        Matcher name = Pattern.compile("(\\w+)\\(").matcher(method[0]);
+        if (method[0].contains(" static ") || !name.find()) {
+            return;
+        }
+        Pattern call = Pattern.compile("(?<![\\w.])(this\\.)?" + name.group(1) + "\\(");
+        for (int i = 1; i < method.length; i++) {
+            mind(!call.matcher(method[i]).find(), "LANGUAGE.md 8: calls itself: " + method[0].trim());
         }
     }
 
